@@ -79,6 +79,10 @@ public final class PromiseTest {
         Due.is("kept by SIZE", itemOf(x, 1, 0), 5);
         x.row(7, 2, 40);
         Due.is("a new ROW's items", itemOf(x, 7, 39), 0);
+        x.set(7, 0, 6);
+        x.drop(7);
+        x.row(7, 0, 1);
+        Due.is("a ROW's items behind drop()", itemOf(x, 7, 0), 0);
     }
 
     /** No call reads an item out: which ROW of what is SEEN fits tells it, from -1 to 6. */
@@ -474,6 +478,8 @@ public final class PromiseTest {
         Due.is("stuck() behind a bow", x.stuck(), 0);
         x.steps(3);
         Due.is("stuck() of none left", x.stuck(), 0);
+        Due.tell(x, "m4,1;s1,1,0;s1,1,0;g1,1,1;s1,1,3;s1,1,3;");
+        Due.is("stuck() at two DOORS", x.stuck(), 27);
     }
 
     private static void promise20ring() {
@@ -551,6 +557,10 @@ public final class PromiseTest {
         Due.is("upwards", x.raise(0), 101);
         Due.tell(x, "m1,1;c2,5,0;b7,1,0;");
         Due.is("by five", x.raise(0), 507);
+        Due.tell(x, "m1,1;c0,5,0;b9,1,0;");
+        Due.is("up to 9", x.raise(0), 909);
+        Due.tell(x, "m1,1;c0,5,0;c0,5,0;b1,1,0;");
+        Due.is("down to 0", x.raise(0), 120);
     }
 
     private static void promise23third() {
@@ -716,6 +726,13 @@ public final class PromiseTest {
         Due.is("drawn(3, 1, 1)", x.drawn(3, 1, 1), 1);
         Due.is("drawn(60, 999999, 1)", x.drawn(60, 999999, 1) >= 0 ? 1 : 0, 1);
         Due.is("nothing changes", x.count(4), 0);
+        Due.tell(x, "m1,2;j5,0,0;j5,0,0;");
+        // 16807 is 1 by 2: 1 BOWS, so that 0 goes; 282475249, too: 1 BOWS anew, and goes
+        Due.is("drawn(1, 1, 1) at one DOOR", x.drawn(1, 1, 1), 1);
+        Due.is("drawn(2, 1, 0) at one DOOR", x.drawn(2, 1, 0), 2);
+        Due.is("drawn(2, 1, 1) at one DOOR", x.drawn(2, 1, 1), 0);
+        // 2 times 16807 is 0 by 2: 0 BOWS
+        Due.is("drawn(1, 2, 0), 0 BOWS", x.drawn(1, 2, 0), 1);
     }
 
     private static void promise31and32images() {
