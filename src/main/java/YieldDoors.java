@@ -1088,7 +1088,7 @@ public final class YieldDoors {
             int pairs = 0;
             for (int lesser = 0; lesser < hall.people; lesser++) {
                 for (int greater = lesser + 1; greater < hall.people; greater++) {
-                    if (hall.yields(lesser, greater) && hall.yields(greater, lesser)) {
+                    if (isPair(hall, lesser, greater)) {
                         pairs++;
                     }
                 }
@@ -1096,10 +1096,14 @@ public final class YieldDoors {
             return pairs;
         }
 
+        private static boolean isPair(Hall hall, int one, int other) {
+            return hall.yields(one, other) && hall.yields(other, one);
+        }
+
         int firstPair(Hall hall) {
             for (int lesser = 0; lesser < hall.people; lesser++) {
                 for (int greater = lesser + 1; greater < hall.people; greater++) {
-                    if (hall.yields(lesser, greater) && hall.yields(greater, lesser)) {
+                    if (isPair(hall, lesser, greater)) {
                         return 10 * lesser + greater;
                     }
                 }
