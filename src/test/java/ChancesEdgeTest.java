@@ -237,6 +237,13 @@ public final class ChancesEdgeTest {
         Due.is("a junior", seen("m1,1;g9,9,0;g0,0,0;", 1).who(0, 0, 0, 0, 1), 8);
     }
 
+    private static void promise26asAllAreNow() {
+        YieldDoors x = seen("m1,1;c5,5,0;g4,4,0;", 0);
+        Due.is("none is greater", x.who(0, 0, 0, 0, 1), 54);
+        x.revise(1, 0, 6);
+        Due.is("a RANK is greater", x.who(0, 0, 0, 0, 1), 48);
+    }
+
     private static void promise26noneFits() {
         Due.is("who", seen(CLERKS, 2).who(0, 0, 0, 0, 1), 0);
     }
@@ -422,6 +429,13 @@ public final class ChancesEdgeTest {
         days(Due.told("m1,1;j0,0,0;j0,0,0;j0,0,0;"), 3, 1, 2, 2);
         days(Due.told("m1,1;j0,0,0;j0,0,0;j0,0,0;"), 4, 1, 2, 3);
         days(Due.told("m1,1;j0,0,0;j0,0,0;j0,0,0;"), 5, 1, 3, 2);
+    }
+
+    private static void promise30theRestIsBy2147483647() {
+        // by 6 these are 1, 1, 5, 2, 4, 2: 1 goes, comes back; 5, 2, 4 go; 2 comes back
+        YieldDoors x = Due.told("m1,1;j0,0,0;j0,0,0;j0,0,0;j0,0,0;j0,0,0;j0,0,0;");
+        days(x, 4, 1, 3, 4);
+        days(x, 6, 1, 4, 4);
     }
 
     private static void promise30somebodyWentOnceForEachDoor() {

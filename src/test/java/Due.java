@@ -4,7 +4,7 @@ final class Due {
     static final int NULL = -1000011, PLACE = -1000012, KIND = -1000013, SIZE = -1000014, STORE = -1000015;
     static final int LEAST = Integer.MIN_VALUE, MOST = Integer.MAX_VALUE;
 
-    /** With the longest law and seven PEOPLE that nobody ever lets go. */
+    /** Seven of whom none MAY go, unless he BOWS. */
     static final String JUNIORS = "m1,1;j0,0,0;j0,0,0;j0,0,0;j0,0,0;j0,0,0;j0,0,0;j0,0,0;";
     static final String GUESTS = "m1,1;g0,0,0;g0,0,0;g0,0,0;g0,0,0;g0,0,0;g0,0,0;g0,0,0;";
 

@@ -384,6 +384,13 @@ public final class ForetoldEdgeTest {
         Due.is("raise(1)", Due.told("m2,1;g0,0,0;s4,0,1;s4,0,1;").raise(1), 113);
     }
 
+    private static void promise22byRanksAsTheyAreNow() {
+        YieldDoors x = Due.told("m1,1;c1,9,0;b2,8,0;");
+        Due.is("1 by one up", x.raise(0), 102);
+        x.revise(1, 0, 9);
+        Due.is("1 by eight up", x.raise(0), 809);
+    }
+
     // ---- promise 23
 
     private static void promise23withoutAMinistryItIsStateAheadOfBad() {
@@ -434,6 +441,14 @@ public final class ForetoldEdgeTest {
 
     private static void promise23theFewestNotTheFirst() {
         thirdAt(Due.told("m2,1;j0,0,0;j0,0,1;j0,0,1;g0,0,1;"), 0, 3, 0);
+    }
+
+    private static void promise23theFirstIfHeMakesTheFewest() {
+        thirdAt(Due.told("m2,1;j0,0,0;g0,0,1;j0,0,1;"), 0, 1, 0);
+    }
+
+    private static void promise23allSevenWaitThereThen() {
+        thirdAt(Due.told("m2,1;j0,0,0;j0,0,0;j0,0,0;j0,0,0;j0,0,0;j0,0,0;j0,0,1;"), 0, 6, 7);
     }
 
     private static void promise23heCountsHimself() {

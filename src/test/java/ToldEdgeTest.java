@@ -386,6 +386,15 @@ public final class ToldEdgeTest {
         Due.is("undo()", x.undo(), Due.STATE);
     }
 
+    private static void promise7anewNothingThatWasForetoldIsLeft() {
+        YieldDoors x = Due.told("m1,9;g0,0,0;g0,0,0;g0,0,0;");
+        x.drawn(1, 1, 0);
+        Due.tell(x, "m1,9;g0,0,0;g0,0,0;g0,0,0;");
+        Due.is("STEP", x.count(3), 0);
+        Due.is("THROUGH", x.count(4), 0);
+        Due.is("NOBODY", x.count(5), 0);
+    }
+
     private static void promise7anewTheRowsAndTheImagesStay() {
         YieldDoors x = Due.busy();
         x.ministry();
