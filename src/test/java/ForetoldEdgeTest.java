@@ -166,6 +166,12 @@ public final class ForetoldEdgeTest {
         Due.is("all are THROUGH", allThrough().stuck(), 0);
     }
 
+    private static void promise19whoIsThroughIsNotStuckBesideAnother() {
+        YieldDoors x = Due.told("m2,1;j0,0,0;j0,0,1;");
+        x.steps(1);
+        Due.is("stuck()", x.stuck(), 0);
+    }
+
     private static void promise19allAreStuck() {
         Due.is("stuck()", Due.told(Due.JUNIORS).stuck(), 127);
     }
