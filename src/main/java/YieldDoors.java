@@ -569,7 +569,7 @@ public final class YieldDoors {
             if (yard == FAULTY) {
                 return false;
             }
-            draft.found(doors, yard);
+            draft.begin(doors, yard);
             return true;
         }
 
@@ -699,7 +699,7 @@ public final class YieldDoors {
             System.arraycopy(other.nobodyFor, 0, nobodyFor, 0, MOST_PEOPLE);
         }
 
-        void found(int newDoors, int newYard) {
+        void begin(int newDoors, int newYard) {
             doors = newDoors;
             yard = newYard;
             people = 0;

@@ -76,12 +76,16 @@ public final class LanguageTest {
                 Due.holds(method + " has a name of its own", !taken.contains(method.getName()));
                 Due.holds(method + " takes seven at most", method.getParameterCount() <= 7);
             }
+            int held = 0;
             for (Field field : one.getDeclaredFields()) {
                 Due.holds(field + " is final, if static",
                         !Modifier.isStatic(field.getModifiers()) || Modifier.isFinal(field.getModifiers()));
+                held += Modifier.isStatic(field.getModifiers()) ? 0 : 1;
             }
+            Due.holds(one + " has twenty fields at most", held <= 20);
         }
         for (Method method : YieldDoors.class.getDeclaredMethods()) {
+            Due.holds(method + " takes seven at most", method.getParameterCount() <= 7);
             if (Modifier.isPrivate(method.getModifiers())) {
                 Due.holds(method + " has a name of its own", !taken.contains(method.getName()));
             }
